@@ -12,6 +12,7 @@ public final class BookingsTest {
         servedInOrder();
         confirm();
         cancelPaysByFare();
+        cancelOfOnePlace();
         cancelOfOtherStates();
         cancelServes();
         shrinkPays();
@@ -79,6 +80,10 @@ public final class BookingsTest {
         check.same("the 60th", x.of(59, 2), 6);
         x.cancel(0);
         check.badState("a cancelled one keeps its number", () -> x.hold(0, 1, 1));
+        check.same("list of 30 of 60", x.count(3), 30);
+        x.tick(5);
+        check.same("all held ones of 60 expire", x.count(2), 0);
+        check.same("close of 60", x.close(), 0);
     }
 
     private static void holdPassesTheWaitingList() {
@@ -174,6 +179,13 @@ public final class BookingsTest {
             check.same("room", x.room(3), 6);
             check.same("its places stay told", x.of(0, 2), 3);
         }
+    }
+
+    private static void cancelOfOnePlace() {
+        FareDesk x = confirmed(1, 1, 1);
+        check.same("back of one place", x.cancel(0), 225);
+        check.same("till", x.count(4), 75);
+        check.same("paid", x.of(0, 4), 0);
     }
 
     private static void cancelOfOtherStates() {
@@ -300,6 +312,10 @@ public final class BookingsTest {
         check.unsupported("room 3 for 4", () -> x.change(0, 3));
         check.same("fare stays", x.of(0, 1), 0);
         check.same("room stays", x.room(0), 2);
+        x.limit(2, 4);
+        x.change(0, 2);
+        check.same("room 4 for 4", x.of(0, 1), 2);
+        x.change(0, 2);
         x.change(0, 0);
         check.badArgument("no fare 4", () -> x.change(0, 4));
         check.badArgument("no fare -1", () -> x.change(0, -1));

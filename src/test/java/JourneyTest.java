@@ -222,6 +222,10 @@ public final class JourneyTest {
         x.close();
         int[] closed = {9, 5, 3, 0, 900, 9, 1};
         countAll(x, closed);
+        FareDesk y = new FareDesk(1);
+        y.limit(3, 0);
+        y.join(3, 1, 5);
+        check.same("the first booking waits", y.count(3), 1);
     }
 
     private static void countAll(FareDesk x, int[] due) {
