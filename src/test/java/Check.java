@@ -8,33 +8,26 @@ final class Check {
     private int checked;
     private int wrong;
 
+    int checked() {
+        return checked;
+    }
+
     void same(String what, long got, long due) {
-        checked++;
-        if (got != due) {
-            wrong++;
-            System.out.println(what + " answered " + got + ", due is " + due);
-        }
+        count(got == due, what + " answered " + got + ", due is " + due);
     }
 
-    void badArgument(String what, Call call) {
-        throwsJust(what, IllegalArgumentException.class, call);
+    void same(String what, String got, String due) {
+        count(got.equals(due), what + "\n  is  " + got + "\n  due " + due);
     }
 
-    void badState(String what, Call call) {
-        throwsJust(what, IllegalStateException.class, call);
+    void holds(String what, boolean good) {
+        count(good, "does not hold: " + what);
     }
 
-    void unsupported(String what, Call call) {
-        throwsJust(what, UnsupportedOperationException.class, call);
-    }
-
-    private void throwsJust(String what, Class<?> due, Call call) {
-        checked++;
+    /** Due is the class of an exception; null if the call must answer. */
+    void throwsJust(String what, Class<?> due, Call call) {
         Class<?> got = thrownBy(call);
-        if (got != due) {
-            wrong++;
-            System.out.println(what + " threw " + got + ", due is " + due);
-        }
+        count(got == due, what + " threw " + got + ", due is " + due);
     }
 
     /** The class of what the call throws; null if it answers. */
@@ -44,6 +37,14 @@ final class Check {
             return null;
         } catch (RuntimeException e) {
             return e.getClass();
+        }
+    }
+
+    private void count(boolean good, String told) {
+        checked++;
+        if (!good) {
+            wrong++;
+            System.out.println(told);
         }
     }
 

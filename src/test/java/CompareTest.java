@@ -1,9 +1,11 @@
 import java.util.Random;
 
-/** Long runs of calls on FareDesk and on PlainDesk, which must answer alike after every call. */
+/** Long runs of calls on FareDesk and on PlainDesk, which must answer each of them alike. */
 public final class CompareTest {
-    private static final int RUNS = 300;
+    private static final int RUNS = 3000;
+    /** The document promises nothing of a call after these. */
     private static final int CALLS = 512;
+    private static final int SEATS_LOOKED_AT = 62;
 
     private interface Answer {
         int get();
@@ -14,6 +16,7 @@ public final class CompareTest {
     private FareDesk desk;
     private PlainDesk plain;
     private boolean alike;
+    private int calls;
     private StringBuilder told;
     private final int[] answeredWell = new int[16];
 
@@ -22,6 +25,7 @@ public final class CompareTest {
         for (int run = 0; run < RUNS; run++) {
             test.run(run);
         }
+        test.togetherOnEveryPatternOfTwoRows();
         for (int kind = 0; kind < 16; kind++) {
             test.check.same("calls of kind " + kind + " that went well, at least 100",
                 Math.min(100, test.answeredWell[kind]), 100);
@@ -31,17 +35,54 @@ public final class CompareTest {
 
     private void run(int run) {
         int rows = random.nextInt(5) == 0 ? random.nextInt(14) - 1 : 1 + random.nextInt(3);
+        begin(rows, "run " + run + " of " + rows + " rows:");
+        // Some runs close late or never, so that long lives are seen too.
+        int closeFrom = 50 + random.nextInt(CALLS);
+        int lookFrom = 1 + random.nextInt(CALLS);
+        while (calls < lookFrom && alike) {
+            call(calls >= closeFrom);
+        }
+        lookAtAll();
+        check.holds(told.toString(), alike);
+    }
+
+    private void begin(int rows, String title) {
         desk = new FareDesk(rows);
         plain = new PlainDesk(rows);
         alike = true;
-        told = new StringBuilder("run " + run + " of " + rows + " rows:");
-        // Some runs close late or never, so that long lives are seen too.
-        int closeFrom = 50 + random.nextInt(CALLS);
-        for (int i = 0; i < CALLS && alike; i++) {
-            call(i >= closeFrom);
-            compareState();
+        calls = 0;
+        told = new StringBuilder(title);
+    }
+
+    /** Every way in which two rows may be taken, and every number of seats asked for then. */
+    private void togetherOnEveryPatternOfTwoRows() {
+        for (int pattern = 0; pattern < 1 << 12; pattern++) {
+            for (int places = 1; places <= 6; places++) {
+                together(pattern, places);
+                check.holds(told.toString(), alike);
+            }
         }
-        check.same(alike ? "run " + run : told.toString(), alike ? 1 : 0, 1);
+    }
+
+    private void together(int pattern, int places) {
+        begin(2, "seats taken by the bits of " + pattern + ", " + places + " places:");
+        same(0, "limit(0, 99)", () -> limit(desk, 0, 99), () -> limit(plain, 0, 99));
+        newBooking(true, 0, places, 50);
+        same(5, "confirm(0)", () -> desk.confirm(0), () -> plain.confirm(0));
+        for (int seat = 0; seat < 12; seat++) {
+            if ((pattern >> seat & 1) == 1) {
+                takeSeat(seat);
+            }
+        }
+        same(10, "together(0)", () -> desk.together(0), () -> plain.together(0));
+        lookAtAll();
+    }
+
+    private void takeSeat(int seat) {
+        newBooking(true, 0, 1, 50);
+        int b = plain.count(1) - 1;
+        same(5, "confirm(" + b + ")", () -> desk.confirm(b), () -> plain.confirm(b));
+        same(9, "seat(" + b + ", " + seat + ")", () -> desk.seat(b, seat), () -> plain.seat(b, seat));
     }
 
     private void call(boolean mayClose) {
@@ -114,27 +155,44 @@ public final class CompareTest {
         same(15, "count(" + what + ")", () -> desk.count(what), () -> plain.count(what));
     }
 
-    private void compareState() {
-        for (int which = 0; which <= 6; which++) {
-            alike &= desk.count(which) == plain.count(which);
+    /** As much as may still be asked, the newest bookings before older ones. */
+    private void lookAtAll() {
+        for (int i = 0; i <= 6; i++) {
+            int which = i;
+            same(15, "count(" + which + ")", () -> desk.count(which), () -> plain.count(which));
         }
-        for (int fare = 0; fare < 4; fare++) {
-            alike &= desk.room(fare) == plain.room(fare);
+        for (int i = 0; i < 4; i++) {
+            int fare = i;
+            same(2, "room(" + fare + ")", () -> desk.room(fare), () -> plain.room(fare));
         }
-        for (int b = 0; b < plain.count(1) && alike; b++) {
-            for (int what = 0; what <= 6; what++) {
-                alike &= desk.of(b, what) == plain.of(b, what);
-            }
+        for (int b = plain.count(1) - 1; b >= 0; b--) {
+            lookAtBooking(b);
         }
-        for (int seat = -1; seat <= 60; seat++) {
-            alike &= desk.at(seat) == plain.at(seat);
+        for (int i = 0; i < SEATS_LOOKED_AT; i++) {
+            int seat = i - 1;
+            same(14, "at(" + seat + ")", () -> desk.at(seat), () -> plain.at(seat));
+        }
+    }
+
+    private void lookAtBooking(int b) {
+        for (int i = 0; i <= 6; i++) {
+            int what = i;
+            same(11, "of(" + b + ", " + what + ")", () -> desk.of(b, what), () -> plain.of(b, what));
         }
     }
 
     private void same(int kind, String call, Answer got, Answer due) {
+        if (calls == CALLS) {
+            return;
+        }
+        calls++;
         String answer = answerOf(due);
+        String gotten = answerOf(got);
         told.append(' ').append(call).append('=').append(answer);
-        alike &= answerOf(got).equals(answer);
+        if (!gotten.equals(answer)) {
+            alike = false;
+            told.append(" [answered ").append(gotten).append(']');
+        }
         if (Character.isDigit(answer.charAt(answer.length() - 1))) {
             answeredWell[kind]++;
         }

@@ -6,7 +6,7 @@ import java.util.HashSet;
 import java.util.Set;
 import java.util.TreeSet;
 
-/** The public face is the document's and no more (LANGUAGE.md, rules 1 and 5). */
+/** "The public face" is the document's and no more (LANGUAGE.md, rules 1 and 5). */
 public final class FaceTest {
     private static final String A = " IllegalArgumentException";
     private static final String S = " IllegalStateException";
@@ -60,7 +60,7 @@ public final class FaceTest {
             }
         }
         for (String method : open) {
-            check.same("in the document: " + method, FACE.contains(method) ? 1 : 0, 1);
+            check.holds("it stands in the document: " + method, FACE.contains(method));
         }
         check.same("open methods", open.size(), FACE.size());
         privateNames.retainAll(openNames);
@@ -81,9 +81,9 @@ public final class FaceTest {
     private static void fields(Check check) {
         for (Field field : FareDesk.class.getDeclaredFields()) {
             int modifiers = field.getModifiers();
-            check.same("private: " + field.getName(), Modifier.isPrivate(modifiers) ? 1 : 0, 1);
+            check.holds("it is private: " + field.getName(), Modifier.isPrivate(modifiers));
             boolean lasting = !Modifier.isStatic(modifiers) || Modifier.isFinal(modifiers);
-            check.same("final if static: " + field.getName(), lasting ? 1 : 0, 1);
+            check.holds("it is final if static: " + field.getName(), lasting);
         }
     }
 
@@ -91,8 +91,8 @@ public final class FaceTest {
         for (Class<?> inside : FareDesk.class.getDeclaredClasses()) {
             int modifiers = inside.getModifiers();
             boolean hidden = !Modifier.isPublic(modifiers) && !Modifier.isProtected(modifiers);
-            check.same("hidden and static: " + inside.getName(),
-                hidden && Modifier.isStatic(modifiers) ? 1 : 0, 1);
+            check.holds("static and seen by no one else: " + inside.getName(),
+                hidden && Modifier.isStatic(modifiers));
         }
     }
 }
