@@ -9,6 +9,8 @@ final class Document {
     /** Words between two quotes that bind nothing by themselves. */
     private static final String BETWEEN = "(Illegal(Argument|State)|UnsupportedOperation)Exception|or|and";
 
+    private static final List<String> UNNUMBERED = List.of("What it is", "Terms");
+
     private static final class Section {
         final String heading;
         final String words;
@@ -64,11 +66,11 @@ final class Document {
         return true;
     }
 
-    /** What stands in the promises and the terms and is quoted by no test. */
+    /** What the document says of the class, the face and what is not promised aside, and no test quotes. */
     List<String> unquoted() {
         List<String> left = new ArrayList<>();
         for (Section section : sections) {
-            if (section.heading.startsWith("Promise ") || section.heading.equals("Terms")) {
+            if (section.heading.startsWith("Promise ") || UNNUMBERED.contains(section.heading)) {
                 addUnquoted(section, left);
             }
         }

@@ -1,93 +1,125 @@
+import java.io.IOException;
 import java.lang.reflect.Constructor;
+import java.lang.reflect.Executable;
 import java.lang.reflect.Field;
 import java.lang.reflect.Method;
 import java.lang.reflect.Modifier;
+import java.nio.file.Files;
+import java.nio.file.Path;
+import java.util.ArrayList;
 import java.util.HashSet;
+import java.util.List;
 import java.util.Set;
 import java.util.TreeSet;
 
-/** "The public face" is the document's and no more (LANGUAGE.md, rules 1 and 5). */
+/** "The public face" is the document's and no more (LANGUAGE.md, rule 1). */
 public final class FaceTest {
-    private static final String A = " IllegalArgumentException";
-    private static final String S = " IllegalStateException";
-    private static final String U = " UnsupportedOperationException";
-    private static final Set<String> FACE = Set.of(
-        "void limit 2" + A + S,
-        "void price 2" + A,
-        "int room 1" + A,
-        "int hold 3" + A + S + U,
-        "int join 3" + A + S,
-        "int confirm 1" + A + S,
-        "int cancel 1" + A + S,
-        "int shrink 2" + A + S,
-        "void change 2" + A + S + U,
-        "int seat 2" + A + S + U,
-        "int together 1" + A + S + U,
-        "void tick 1" + A,
-        "int close 0" + S,
-        "int of 2" + A,
-        "int at 1",
-        "int count 1" + A);
+    private static final String A = "IllegalArgumentException";
+    private static final String S = "IllegalStateException";
+    private static final String U = "UnsupportedOperationException";
+    private static final List<String> FACE = List.of(
+        "public FareDesk(int rows);",
+        "public void limit(int fare, int limit) throws " + A + ", " + S + ";",
+        "public void price(int fare, int price) throws " + A + ";",
+        "public int room(int fare) throws " + A + ";",
+        "public int hold(int fare, int places, int ticks) throws " + A + ", " + S + ", " + U + ";",
+        "public int join(int fare, int places, int ticks) throws " + A + ", " + S + ";",
+        "public int confirm(int booking) throws " + A + ", " + S + ";",
+        "public int cancel(int booking) throws " + A + ", " + S + ";",
+        "public int shrink(int booking, int n) throws " + A + ", " + S + ";",
+        "public void change(int booking, int fare) throws " + A + ", " + S + ", " + U + ";",
+        "public int seat(int booking, int seat) throws " + A + ", " + S + ", " + U + ";",
+        "public int together(int booking) throws " + A + ", " + S + ", " + U + ";",
+        "public void tick(int n) throws " + A + ";",
+        "public int close() throws " + S + ";",
+        "public int of(int booking, int what) throws " + A + ";",
+        "public int at(int seat);",
+        "public int count(int which) throws " + A + ";");
 
-    public static void main(String[] args) {
-        Check check = new Check();
-        check.same("the class is public and final", FareDesk.class.getModifiers(),
+    private final Check check = new Check();
+
+    public static void main(String[] args) throws IOException {
+        FaceTest test = new FaceTest();
+        test.document(Path.of("..", "shared", "DOC.md"));
+        test.check.same("the class is public and final", FareDesk.class.getModifiers(),
             Modifier.PUBLIC | Modifier.FINAL);
-        constructors(check);
-        methods(check);
-        fields(check);
-        classesInside(check);
-        check.end();
+        test.check.holds("it has no package", FareDesk.class.getPackageName().isEmpty());
+        test.members();
+        test.names();
+        test.fields();
+        test.classesInside();
+        test.check.end();
     }
 
-    private static void constructors(Check check) {
-        Constructor<?>[] all = FareDesk.class.getDeclaredConstructors();
-        check.same("constructors", all.length, 1);
-        check.same("the constructor is public", all[0].getModifiers(), Modifier.PUBLIC);
-        check.same("parameters of the constructor", all[0].getParameterCount(), 1);
+    /** The lines above are those of the document's code block, and of the promises' heads. */
+    private void document(Path path) throws IOException {
+        if (!Files.exists(path)) {
+            System.out.println("no document at " + path + ": the face is not compared with it");
+            return;
+        }
+        String text = Files.readString(path);
+        String block = text.substring(text.indexOf("public final class FareDesk {\n"), text.indexOf("\n}\n```"));
+        List<String> lines = new ArrayList<>();
+        for (String line : block.split("\n")) {
+            lines.add(line.trim());
+        }
+        check.same("the document's face", String.join("\n", lines.subList(1, lines.size())), String.join("\n", FACE));
+        for (String line : FACE) {
+            String head = "`" + line.substring("public ".length(), line.length() - 1) + "`:";
+            check.holds("a promise begins with " + head, text.contains(head));
+        }
     }
 
-    private static void methods(Check check) {
+    private void members() {
+        Set<String> due = new TreeSet<>();
+        for (String line : FACE) {
+            due.add(line.replaceAll("int \\w+(?=[,)])", "int"));
+        }
         Set<String> open = new TreeSet<>();
+        for (Constructor<?> constructor : FareDesk.class.getDeclaredConstructors()) {
+            open.add(written(constructor, "FareDesk"));
+        }
+        for (Method method : FareDesk.class.getDeclaredMethods()) {
+            if (!Modifier.isPrivate(method.getModifiers())) {
+                open.add(written(method, method.getReturnType().getName() + " " + method.getName()));
+            }
+        }
+        check.same("all that is not private", String.join("\n", open), String.join("\n", due));
+    }
+
+    private static String written(Executable member, String name) {
+        String modifiers = Modifier.toString(member.getModifiers());
+        String thrown = names(member.getExceptionTypes());
+        return modifiers + " " + name + "(" + names(member.getParameterTypes()) + ")"
+            + (thrown.isEmpty() ? "" : " throws " + thrown) + ";";
+    }
+
+    private static String names(Class<?>[] types) {
+        List<String> names = new ArrayList<>();
+        for (Class<?> type : types) {
+            names.add(type.getSimpleName());
+        }
+        return String.join(", ", names);
+    }
+
+    private void names() {
         Set<String> openNames = new HashSet<>();
         Set<String> privateNames = new HashSet<>();
         for (Method method : FareDesk.class.getDeclaredMethods()) {
-            if (Modifier.isPrivate(method.getModifiers())) {
-                privateNames.add(method.getName());
-            } else {
-                open.add(written(method));
-                openNames.add(method.getName());
-            }
+            boolean hidden = Modifier.isPrivate(method.getModifiers());
+            (hidden ? privateNames : openNames).add(method.getName());
         }
-        for (String method : open) {
-            check.holds("it stands in the document: " + method, FACE.contains(method));
-        }
-        check.same("open methods", open.size(), FACE.size());
         privateNames.retainAll(openNames);
-        check.same("private methods with a public name", privateNames.size(), 0);
+        check.same("private methods with a public name", privateNames.toString(), "[]");
     }
 
-    private static String written(Method method) {
-        StringBuilder text = new StringBuilder();
-        text.append(method.getReturnType().getSimpleName());
-        text.append(' ').append(method.getName());
-        text.append(' ').append(method.getParameterCount());
-        for (Class<?> thrown : method.getExceptionTypes()) {
-            text.append(' ').append(thrown.getSimpleName());
-        }
-        return text.toString();
-    }
-
-    private static void fields(Check check) {
+    private void fields() {
         for (Field field : FareDesk.class.getDeclaredFields()) {
-            int modifiers = field.getModifiers();
-            check.holds("it is private: " + field.getName(), Modifier.isPrivate(modifiers));
-            boolean lasting = !Modifier.isStatic(modifiers) || Modifier.isFinal(modifiers);
-            check.holds("it is final if static: " + field.getName(), lasting);
+            check.holds("it is private: " + field.getName(), Modifier.isPrivate(field.getModifiers()));
         }
     }
 
-    private static void classesInside(Check check) {
+    private void classesInside() {
         for (Class<?> inside : FareDesk.class.getDeclaredClasses()) {
             int modifiers = inside.getModifiers();
             boolean hidden = !Modifier.isPublic(modifiers) && !Modifier.isProtected(modifiers);

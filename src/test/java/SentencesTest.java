@@ -1,8 +1,8 @@
 import java.nio.file.Path;
 
 /**
- * Each sentence of the document's terms and promises has tests of its own here, and none is
- * without one: what no test quotes is told and fails.
+ * Each sentence of what the class is, of the terms and of the promises has tests of its own here,
+ * and none is without one: what no test quotes is told and fails.
  */
 public final class SentencesTest {
     public static void main(String[] args) {

@@ -7,7 +7,12 @@ final class TermSentences {
     }
 
     void run() {
-        s.test("What it is", "at most 512 calls after it has been made", this::answersThe512thCall);
+        s.test("What it is", "Sells the places of one journey by fares with nested limits, holds them for a while,"
+            + " keeps a waiting list that is served whenever places come free, gives seats next to one another,"
+            + " and at last lets those board who have a place.", this::oneJourney);
+        s.test("What it is", "An object is used for at most 512 calls after it has been made;",
+            this::answersThe512thCall);
+        s.test("What it is", "what later calls answer is free.", this::answersLaterCallsToo);
         s.test("Terms", "TIME is counted in ticks, at first 0.", this::timeIsAtFirst0);
         s.test("Terms", "The cabin has ROWS, numbered from 0, of 6 SEATS 0 .. 5", this::rowsOfSixSeats);
         s.test("Terms", "with an aisle between 2 and 3.", this::aisleBetween2And3);
@@ -50,6 +55,23 @@ final class TermSentences {
         s.test("Terms", "and of each tick in which some booking expired.", this::servedAfterTick);
     }
 
+    private void oneJourney() {
+        FareDesk x = Desks.limits(1, 6, 4, 2, 2);
+        s.same("two places at the lowest fare", x.hold(3, 2, 9), 0);
+        s.rooms(x, 4, 2, 0, 0);
+        s.same("four more, for a while", x.hold(0, 4, 2), 1);
+        s.same("two that wait for places", x.join(1, 2, 9), 2);
+        x.confirm(0);
+        s.same("seats next to one another", x.together(0), 0);
+        s.seats(x, 0, 0, 1);
+        x.tick(2);
+        s.states(x, 2, 5, 1);
+        s.same("the one that was served pays", x.confirm(2), 600);
+        s.same("those board who have a place", x.close(), 4);
+        s.states(x, 6, 5, 6);
+        s.seats(x, 2, 2, 3);
+    }
+
     private void answersThe512thCall() {
         FareDesk x = new FareDesk(1);
         for (int call = 1; call <= 511; call++) {
@@ -65,6 +87,18 @@ final class TermSentences {
         s.same("confirm in the 510th call", y.confirm(0), 2400);
         s.same("together in the 511th call", y.together(0), 0);
         s.same("close in the 512th call", y.close(), 6);
+    }
+
+    /** Whatever they answer: they end, and none throws by itself (LANGUAGE.md, rule 7). */
+    private void answersLaterCallsToo() {
+        s.allowed("1000 ticks, holds and questions", () -> new FareDesk(1), x -> {
+            for (int i = 0; i < 1000; i++) {
+                x.tick(100);
+                if (x.count(1) < 60) {
+                    x.hold(0, 6, 50);
+                }
+            }
+        });
     }
 
     private void timeIsAtFirst0() {
